@@ -14,7 +14,11 @@ public final class OracleTest {
 
   static class Dish {
     int number, needs, cooked;
-    int need(int part) { return String.format("%06d", needs).charAt(part) - '0'; }
+    int need(int part) {
+      int rest = needs;
+      for (int i = part; i < 5; i++) rest /= 10;
+      return rest % 10;
+    }
     int all() { int s = 0; for (int p = 0; p < 6; p++) s += need(p); return s; }
     int feeds(int v, int kitchen, int hour) { return v; }
     int toll(int v, int part, int much) { return v; }
@@ -692,7 +696,7 @@ public final class OracleTest {
 
   static void one(boolean dear) {
     int a, b, c, d, e;
-    switch (some(dear ? 33 : 29)) {
+    switch (dear && some(4) == 0 ? 29 + some(4) : some(29)) {
       case 0: case 1: case 2: a = around(5);
         b = a == 1 ? (some(9) == 0 ? around(20) : some(2) * 10 + some(6)) : a == 2 ? around(2) : around(6);
         c = a == 4 ? needs() : a == 0 ? around(1000) : a == 3 ? around(10) : some(3) == 0 ? around(100) : some(12);
@@ -825,8 +829,8 @@ public final class OracleTest {
   public static void main(String[] args) {
     int times = args.length > 0 ? Integer.parseInt(args[0]) : 1;
     long first = args.length > 1 ? Long.parseLong(args[1]) : 0;
-    for (long seed = first; seed < first + 3000L * times; seed++) run(seed, 150, false);
-    for (long seed = first; seed < first + 60L * times; seed++) run(1000000 + seed, 60, true);
+    for (long seed = first; seed < first + 4000L * times; seed++) run(seed, 150, false);
+    for (long seed = first; seed < first + 2000L * times; seed++) run(1000000 + seed, 80, true);
     for (long seed = first; seed < first + 6000L * times; seed++) faultRun(2000000 + seed);
     System.out.println(calls + " calls of random runs, " + wrong + " answers are not as due");
     if (wrong != 0) System.exit(1);

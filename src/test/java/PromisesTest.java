@@ -587,6 +587,14 @@ public final class PromisesTest {
     due("buy(1, 0)", x.buy(1, 0), 3);
     due("buy(1, 1)", x.buy(1, 1), 6 - 1);
     due("told(3, 1) behind buy", x.told(3, 1), 0);
+    // of the other KITCHEN's PART 0 more would come, as nothing has to cross: that isn't asked
+    x = new MenuIsATreaty();
+    x.dish(DISH, 0, 300000);
+    x.set(1, 10, 2);
+    rule(x, "feeds much; tolls much; signs kitchen = 1 or much < 2;");
+    due("buy(0, 0) for the other one", x.buy(0, 0), 0);
+    due("buy(0, 1) for the other one", x.buy(0, 1), 2);
+    due("buy(1, 1) for itself", x.buy(1, 1), 3);
     // 99 is the most: nothing comes of it
     MenuIsATreaty y = new MenuIsATreaty();
     y.set(1, 0, 99);
