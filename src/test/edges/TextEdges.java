@@ -67,7 +67,7 @@ final class TextEdges extends Edges {
     edge(7, "which is empty then (by a FAULT, too)", () -> {
       // nothing of a TEXT that was none is left in the next one
       MenuIsATreaty x = laid(1);
-      for (int i = 0; i < 4; i++) due("a long FAULT", read(x, "feeds 1" + "+1".repeat(70) + ";?"), -248);
+      for (int i = 0; i < 3; i++) due("a long FAULT", read(x, "feeds 1" + "+1".repeat(70) + ";?"), -248);
       due("text()", read(x, "feeds 2+3;tolls 1;signs 1;"), 1);
       x.force(1);
       due("asks(0, 0, 5)", x.asks(0, 0, 5), 5);

@@ -80,6 +80,18 @@ public final class LanguageTest {
     for (char c : source.toCharArray()) rule(c < 128, "rule 3: signs 1 to 127", (int) c);
   }
 
+  /** Whatever is made is made by fields and by the constructor, so that no call fills the room. */
+  private static void made(List<String> lines) {
+    int from = lines.indexOf("  public MenuIsATreaty() {");
+    int end = from < 0 ? from : from + lines.subList(from, lines.size()).indexOf("  }");
+    for (int i = 0; i < lines.size(); i++) {
+      String code = lines.get(i).replaceAll("//.*|/?\\*.*", "");
+      boolean ofAField = code.matches(" +(private )?final [\\w\\[\\]]+ \\w+ = new .*;");
+      boolean makes = code.matches(".*\\bnew\\b.*|.*\\.clone\\(.*");
+      rule(!makes || ofAField || i > from && i < end, "rule 12: no call makes an object", lines.get(i));
+    }
+  }
+
   /** Methods stand indented by 2 or 4, and end by a brace as far in. */
   private static void lengths(List<String> lines) {
     for (int i = 0; i < lines.size(); i++) {
@@ -103,6 +115,7 @@ public final class LanguageTest {
     }
     words(Files.readString(path));
     lengths(Files.readAllLines(path));
+    made(Files.readAllLines(path));
     System.out.println(wrong == 0 ? "the rules are kept" : wrong + " breaches of the rules");
     if (wrong != 0) System.exit(1);
   }

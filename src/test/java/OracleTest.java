@@ -618,6 +618,8 @@ public final class OracleTest {
   static StringBuilder story;
   static int wrong = 0;
   static int calls = 0;
+  /** How many calls were made ahead of this run's first one: promise 1, "An object is used for at most 512 calls after it has been made". */
+  static int first = 0;
 
   static int some(int n) { return random.nextInt(n); }
   /** Mostly 0 .. n - 1, sometimes beside it, seldom far away. */
@@ -674,6 +676,7 @@ public final class OracleTest {
 
   static void compare(long got, long due) {
     calls++;
+    if (calls - first > 512) throw new IllegalStateException("an object is used for more than 512 calls: " + story);
     story.append("  ").append(call).append(" = ").append(got).append('\n');
     if (got == due) return;
     wrong++;
@@ -681,6 +684,7 @@ public final class OracleTest {
   }
 
   static void feedText(String s) {
+    if (calls - first + s.length() + 2 > 512) return;
     for (char c : s.toCharArray()) {
       call = "feed(" + (int) c + ")";
       compare(real.feed(c), model.feed(c));
@@ -796,7 +800,7 @@ public final class OracleTest {
     model = new Model();
     real = new MenuIsATreaty();
     story = new StringBuilder("new (run " + seed + ")\n");
-    int before = calls;
+    first = calls;
     int stocked = some(12);
     for (int i = 0; i < stocked; i++) {
       int of = some(2) * 10 + some(6), v = some(10);
@@ -810,7 +814,7 @@ public final class OracleTest {
       compare(real.dish(kind, number, needs), model.dish(kind, number, needs));
     }
     if (some(2) == 0) feedText(textToFeed());
-    while (calls - before < length) {
+    while (calls - first < length) {
       int r = some(40);
       if (r == 0) toldRun();
       else if (r == 1) rowRun();
@@ -823,15 +827,16 @@ public final class OracleTest {
     model = new Model();
     real = new MenuIsATreaty();
     story = new StringBuilder("new (fault run " + seed + ")\n");
+    first = calls;
     for (int i = 0; i < 3; i++) feedText(textToFeed());
   }
 
   public static void main(String[] args) {
     int times = args.length > 0 ? Integer.parseInt(args[0]) : 1;
-    long first = args.length > 1 ? Long.parseLong(args[1]) : 0;
-    for (long seed = first; seed < first + 4000L * times; seed++) run(seed, 150, false);
-    for (long seed = first; seed < first + 2000L * times; seed++) run(1000000 + seed, 80, true);
-    for (long seed = first; seed < first + 6000L * times; seed++) faultRun(2000000 + seed);
+    long seeds = args.length > 1 ? Long.parseLong(args[1]) : 0;
+    for (long seed = seeds; seed < seeds + 4000L * times; seed++) run(seed, 150, false);
+    for (long seed = seeds; seed < seeds + 2000L * times; seed++) run(1000000 + seed, 80, true);
+    for (long seed = seeds; seed < seeds + 6000L * times; seed++) faultRun(2000000 + seed);
     System.out.println(calls + " calls of random runs, " + wrong + " answers are not as due");
     if (wrong != 0) System.exit(1);
   }
